@@ -1174,7 +1174,7 @@ public final class DictProof {
             partCount++;
             length += part.length;
             worth = (worth + (partCount + 1) * part.worth) % REST;
-            depth = Math.max(depth, part.depth + 1);
+            depth = depth > part.depth ? depth : part.depth + 1;
             needs |= part.needs;
             within |= part.within;
         }
