@@ -155,7 +155,7 @@ public final class ModelTest {
         int conditions = random.nextInt(3);
         for (int i = 0; i < conditions; i++) {
             char gap = random.nextBoolean() ? 'x' : 'y';
-            if (head.indexOf(gap) >= 0) {
+            if (head.indexOf(gap) >= 0 || random.nextInt(20) == 0) {
                 text.append(random.nextInt(classes)).append(gap);
             }
         }

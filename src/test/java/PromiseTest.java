@@ -171,6 +171,13 @@ public final class PromiseTest {
         fault("-;n0i,d0i,h0i,f0i,s0i,n0i,", 25);
         fault("-;a0i", 2);
         fault(" -;n0i", 0);
+        // What was read before leaves no trace.
+        DictProof d = page(new DictProof(), "-,0;n0lx0x");
+        due("fault", d.fault(), 10);
+        d.blank();
+        due("fault behind a longer head", page(d, "-;n0i0x").fault(), 5);
+        d.blank();
+        due("fault behind more classes", page(d, "-;n1i").fault(), 3);
     }
 
     private static void promise5Book() {
