@@ -3,7 +3,10 @@ import java.util.Random;
 /** Random runs of calls on the class and on the model: each answer must be the same. */
 public final class ModelTest {
     private static final int RUNS = 3000;
+    /** What later calls answer is free. */
     private static final int CALLS = 512;
+    /** A book of 81 letters, with fault() and book(). */
+    private static final int MOST_IN_A_STEP = 83;
 
     private final Random random;
     private final int run;
@@ -32,7 +35,7 @@ public final class ModelTest {
         if (random.nextInt(4) == 0) {
             strayCall();
         }
-        while (calls < CALLS && wrong == 0) {
+        while (calls + MOST_IN_A_STEP < CALLS && wrong == 0) {
             int dice = random.nextInt(100);
             if (dice < 1 || calls < 10) {
                 write(randomBook());
@@ -54,6 +57,9 @@ public final class ModelTest {
             } else {
                 strayCall();
             }
+        }
+        while (calls < CALLS - 1 && wrong == 0) {
+            strayCall();
         }
         due("digest()", real.digest(), model.digest());
         return wrong;
