@@ -237,6 +237,15 @@ public final class BoundaryTest {
         fault(LARGEST + "n0i", 81);
         fault("-" + "-".repeat(83), 1);
         fault("-;n0i" + "i".repeat(79), 5);
+        // What another page had is not ahead of these.
+        DictProof d = Sentences.page(new DictProof(), LARGEST);
+        S.due("fault()", d.fault(), 81);
+        for (String head : new String[] {"i", "li", "pib", "plib"}) {
+            d.blank();
+            S.due("fault() with head " + head, Sentences.page(d, "-;n0" + head + "0x").fault(), 4 + head.length());
+        }
+        d.blank();
+        S.due("fault() with fewer classes", Sentences.page(d, "-,0;n2x").fault(), 5);
     }
 
     private static void faultNone() {

@@ -624,6 +624,25 @@ public final class TermsTest {
         S.due("of another variable", d.need(0, 0, 0, 0), 2);
         S.due("of another variable", d.need(0, 0, 2, 1), 2);
         S.due("it is none below itself", d.need(0, 2, 0, 0), 2);
+        for (String classes : new String[] {"-,-,-,-", "-,0,1,2", "-,0,0,12", "-,-,1,2", "-,-,0,1", "-,-,0,-", "-,0,-,2"}) {
+            for (int two = 0; two < 64; two++) {
+                plainOfTwo(classes, two / 8, two % 8);
+            }
+        }
+    }
+
+    /** Two needs, each as twice its class and its variable: one is plain, unless the other is below it. */
+    private static void plainOfTwo(String classes, int one, int other) {
+        String conditions = "" + one / 2 + "xy".charAt(one % 2) + other / 2 + "xy".charAt(other % 2);
+        String book = classes + ";n0pxy" + conditions;
+        DictProof d = S.with(book, "pxy");
+        boolean alike = one % 2 == other % 2;
+        boolean firstAbove = alike && (d.about(other / 2, 1) >> one / 2 & 1) == 1;
+        boolean otherAbove = alike && (d.about(one / 2, 1) >> other / 2 & 1) == 1;
+        S.due("need " + one + " of " + book, d.need(0, 0, one / 2, one % 2), firstAbove ? 1 : 2);
+        S.due("need " + other + " of " + book, d.need(0, 0, other / 2, other % 2), otherAbove ? 1 : 2);
+        S.due("needs of " + book, d.goal(0, 0, 5), one == other ? 1 : 2);
+        S.due("plain needs of " + book, d.goal(0, 0, 6), one == other || firstAbove || otherAbove ? 1 : 2);
     }
 
     private static void both(String one, String other, int overlap, int clash) {
@@ -659,6 +678,24 @@ public final class TermsTest {
         both("n0pxpyx", "n0ppxyx", 0, 0);
         both("n0ppxyx", "n0pxpyy", 1, 1);
         both("n0x0x", "n0i", 1, 0);
+        overlappingOfSix("ppxyx", "pxlx", "plxlx", "pyy", "pxpyx", "plxy");
+        overlappingOfSix("x", "lllli", "lx", "llllb", "llx", "i");
+        overlappingOfSix("pxpxx", "pyy", "ppxxx", "pxy", "pib", "pipii");
+    }
+
+    /** Whether two overlap does not hang on the others. */
+    private static void overlappingOfSix(String... heads) {
+        DictProof d = S.with("-;n0" + String.join(",n0", heads));
+        int many = 0;
+        for (int one = 0; one <= 5; one++) {
+            for (int other = one + 1; other <= 5; other++) {
+                int alone = S.with("-;n0" + heads[one] + ",n0" + heads[other]).pair(0, 1, 0);
+                S.due("pair of " + heads[one] + " and " + heads[other], d.pair(one, other, 0), alone);
+                S.due("pair of " + heads[other] + " and " + heads[one], d.pair(other, one, 0), alone);
+                many += alone;
+            }
+        }
+        S.due("pairs that overlap", d.count(3), many);
     }
 
     private static void clashing() {
